@@ -27,7 +27,7 @@ public final class HookTrays {
 
     private final Desk desk;
     private final Tray[] trays;
-    private int trayCount;
+    private int trayCount = 0;
     private final Row draft;
     private final Row spare;
 
@@ -37,7 +37,6 @@ public final class HookTrays {
         for (int i = 0; i < MOST_TRAYS; i++) {
             trays[i] = new Tray();
         }
-        trayCount = 0;
         draft = new Row();
         spare = new Row();
     }
@@ -791,10 +790,16 @@ public final class HookTrays {
         /** DOWN: the place that the card comes to, or THREW. */
         int sink(int from, Desk desk, int hook) {
             int place = from;
-            while (hasPlace(2 * place + 1)) {
-                int child = childAhead(place, desk, hook);
-                if (child == THREW) {
-                    return THREW;
+            int child = 2 * place + 1;
+            while (child < size) {
+                if (child + 1 < size) {
+                    int answer = desk.askComparing(hook, cardAt(child + 1), cardAt(child));
+                    if (answer == THREW) {
+                        return THREW;
+                    }
+                    if (answer < 0) {
+                        child++;
+                    }
                 }
                 int answer = desk.askComparing(hook, cardAt(child), cardAt(place));
                 if (answer == THREW) {
@@ -805,21 +810,9 @@ public final class HookTrays {
                 }
                 swap(child, place);
                 place = child;
+                child = 2 * place + 1;
             }
             return place;
-        }
-
-        private int childAhead(int place, Desk desk, int hook) {
-            int left = 2 * place + 1;
-            int right = 2 * place + 2;
-            if (!hasPlace(right)) {
-                return left;
-            }
-            int answer = desk.askComparing(hook, cardAt(right), cardAt(left));
-            if (answer == THREW) {
-                return THREW;
-            }
-            return answer < 0 ? right : left;
         }
 
         /** MERGED: a is from low to middle, b from middle to high; false if a hook threw. */

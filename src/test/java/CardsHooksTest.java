@@ -10,6 +10,7 @@ public final class CardsHooksTest {
         promise4Hook();
         promise5Plan();
         promise5PlansOfManyHooks();
+        promise5PlansMetInTurn();
         promise5WhatPlansDo();
         promise6ClearPlans();
         promise7About();
@@ -129,6 +130,24 @@ public final class CardsHooksTest {
         CHECK.due("filter", x.filter(0, 1), 0);
         CHECK.due("that of hook 0 stands", x.about(0, 4), 1);
         CHECK.due("that of hook 0 stands", x.count(3), 1);
+    }
+
+    /** The others stand as they were, whichever plan is gone. */
+    private static void promise5PlansMetInTurn() {
+        HookTrays x = new HookTrays();
+        x.hook(3, 0);
+        x.card(1, 1);
+        x.tray(0, 0);
+        x.put(0, 0);
+        for (int n = 1; n <= 12; n++) {
+            CHECK.due("plan for " + n, x.plan(0, n, 0, 20 + n), n);
+        }
+        for (int n = 1; n <= 12; n++) {
+            CHECK.due("filter " + n, x.filter(0, 0), 2);
+            CHECK.thrown("filter " + n, x, 20 + n, 0, n, 0);
+            CHECK.due("plans", x.about(0, 4), 12 - n);
+        }
+        CHECK.due("no plan more", x.filter(0, 0), 0);
     }
 
     private static void promise5WhatPlansDo() {

@@ -12,6 +12,8 @@ public final class TraysTest {
         promise9Full();
         promise10Take();
         promise10TakeFromHeap();
+        promise10DownAmongLikeOnes();
+        promise10DownAsFarAsItCan();
         promise11First();
         promise12Find();
         promise13Sort();
@@ -179,6 +181,35 @@ public final class TraysTest {
         CHECK.due("neither", x.take(0, 2), 0);
         CHECK.holds("neither", x, 0, 2, 6, 4, 1);
         CHECK.due("one call up, none down", x.about(0, 2), 1);
+    }
+
+    private static void promise10DownAmongLikeOnes() {
+        HookTrays x = withCards(1, 2, 2, 3, 3, 2, 2, 9, 9, 2);
+        x.tray(2, 0);
+        putAll(x, 0, 9);
+        CHECK.holds("heap", x, 0, 0, 1, 2, 3, 4, 5, 6, 7, 8);
+        CHECK.due("take", x.take(0, 0), 0);
+        CHECK.holds("of like ones the left, three down", x, 0, 1, 3, 2, 8, 4, 5, 6, 7);
+        CHECK.due("two calls a step, one where it is alone", x.about(0, 2), 5);
+        x.take(0, 7);
+        x.take(0, 6);
+        CHECK.due("a like one does not change places", x.take(0, 0), 0);
+        CHECK.holds("a like one does not change places", x, 0, 5, 3, 2, 8, 4);
+        CHECK.due("two calls", x.about(0, 2), 2);
+    }
+
+    private static void promise10DownAsFarAsItCan() {
+        int[] weights = new int[40];
+        for (int i = 0; i < 40; i++) {
+            weights[i] = i;
+        }
+        HookTrays x = withCards(weights);
+        x.tray(2, 0);
+        putAll(x, 0, 40);
+        for (int i = 0; i < 40; i++) {
+            CHECK.due("first " + i, x.first(0), i);
+            CHECK.due("whole", x.whole(0, 3), 1);
+        }
     }
 
     private static void promise11First() {

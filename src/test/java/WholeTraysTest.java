@@ -54,9 +54,9 @@ public final class WholeTraysTest {
         CHECK.due("filter", x.filter(0, 1), 0);
         CHECK.thrown("filter", x, 0, NONE, 0, 5);
         CHECK.holds("at least 4", x, 0, 0, 2, 4);
-        x.plan(1, 1, 0, 13);
+        x.plan(1, 1, 0, 1);
         CHECK.due("throws at 1", x.filter(0, 1), 2);
-        CHECK.thrown("throws at 1", x, 13, 1, 10, 0);
+        CHECK.thrown("throws at 1", x, 1, 1, 10, 0);
         CHECK.holds("all stay", x, 0, 0, 2, 4);
         CHECK.due("comparing", x.filter(0, 0), NO);
         CHECK.due("adding", x.filter(0, 2), NO);
@@ -67,7 +67,7 @@ public final class WholeTraysTest {
             CHECK.due("tray " + wrong, x.filter(wrong, 1), BAD);
             CHECK.due("hook " + wrong, x.filter(0, wrong), BAD);
         }
-        CHECK.thrown("kept when calls are refused", x, 13, 1, 10, 0);
+        CHECK.thrown("kept when calls are refused", x, 1, 1, 10, 0);
     }
 
     private static void promise14FilterSorted() {
@@ -160,6 +160,12 @@ public final class WholeTraysTest {
         CHECK.due("throws at 1", x.change(0, 2), 2);
         CHECK.thrown("throws at 1", x, 1, 2, 4, 0);
         CHECK.holds("none is done", x, 0, 3, 4, 2);
+        x.plan(2, 2, 1, 0);
+        CHECK.due("lies at 2", x.change(0, 2), 0);
+        CHECK.holds("lies at 2", x, 0, 6, 7, 8);
+        CHECK.due("with a", x.told(6, 0), 21);
+        CHECK.due("less a", x.told(7, 0), 2);
+        CHECK.due("with a", x.told(8, 0), 13);
     }
 
     private static void promise15ChangeFull() {
@@ -319,6 +325,24 @@ public final class WholeTraysTest {
             CHECK.due("what " + wrong, x.whole(0, wrong), BAD);
         }
         wholeByMarks();
+        wholeByPlaces();
+    }
+
+    /** Cards of weights 1, 3, 2 in this order are a whole heap, and no whole sorted row. */
+    private static void wholeByPlaces() {
+        HookTrays x = withCards(1, 3, 2);
+        x.tray(1, 0);
+        x.tray(2, 0);
+        x.put(0, 0);
+        x.put(0, 1);
+        x.plan(0, 1, 1, 0);
+        x.put(0, 2);
+        put(x, 1, 0, 1, 2);
+        CHECK.due("the same", x.same(0, 1), 1);
+        CHECK.due("sorted", x.whole(0, 3), 0);
+        CHECK.due("heap", x.whole(1, 3), 1);
+        CHECK.due("the like one is not ahead", x.put(1, 1), 0);
+        CHECK.due("heap", x.whole(1, 3), 1);
     }
 
     private static void wholeByMarks() {

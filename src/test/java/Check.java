@@ -1,19 +1,45 @@
 /** Compares answers with those that are due, and ends a test with exit code 1 if one was wrong. */
 final class Check {
-    private final String test;
+    private String test;
     private int made = 0;
+    private int madeBefore = 0;
     private int wrong = 0;
 
     Check(String test) {
         this.test = test;
     }
 
+    /** What comes next is told under this name. */
+    void begin(String name) {
+        test = name;
+        madeBefore = made;
+    }
+
+    /** A test that compared nothing is wrong. */
+    void end() {
+        if (made == madeBefore) {
+            fail("compared nothing");
+        }
+    }
+
     void due(String call, long got, long want) {
         made++;
         if (got != want) {
-            wrong++;
-            System.out.println(test + ": " + call + " answered " + got + ", due is " + want);
+            fail(call + " answered " + got + ", due is " + want);
         }
+    }
+
+    /** Two texts of the same lines. */
+    void like(String what, String got, String want) {
+        made++;
+        if (!got.equals(want)) {
+            fail(what + " is another:\n" + got + "due is:\n" + want);
+        }
+    }
+
+    void fail(String why) {
+        wrong++;
+        System.out.println(test + ": " + why);
     }
 
     /** The tray holds just these cards, in this order. */
@@ -37,7 +63,7 @@ final class Check {
     }
 
     void finish() {
-        System.out.println(test + ": " + made + " answers, " + wrong + " wrong");
+        System.out.println(made + " answers, " + wrong + " wrong");
         if (wrong != 0 || made == 0) {
             System.exit(1);
         }

@@ -1,3 +1,4 @@
+import java.util.Arrays;
 import java.util.Map;
 import java.util.TreeMap;
 
@@ -49,9 +50,9 @@ public final class ModelTest {
         int calls = prepare();
         for (; calls < CALLS_OF_A_RUN && CHECK.isRight(); calls++) {
             int method = next(100) == 0 ? 4 : drawn();
-            long[] a = arguments(method);
-            String call = "run " + run + ", call " + (calls + 1) + ": " + NAMES[method] + " " + java.util.Arrays.toString(a);
-            long got = ofProgram(method, a);
+            int[] a = arguments(method);
+            String call = "run " + run + ", call " + (calls + 1) + ": " + NAMES[method] + Arrays.toString(a);
+            long got = Calls.ask(program, NAMES[method], a);
             CHECK.due(call, got, ofModel(method, a));
             SEEN.merge(NAMES[method] + " " + got, 1, Integer::sum);
         }
@@ -89,69 +90,42 @@ public final class ModelTest {
     }
 
     /** The model is asked what there is, so that the program has no more than its 512 calls. */
-    private long[] arguments(int method) {
+    private int[] arguments(int method) {
         int tray = around(model.count(2));
         int card = around(model.count(0));
         int hook = around(model.count(1));
         int place = next(4) == 0 ? next(41) - 1 : next(Math.max(1, model.whole(tray, 1) + 1));
         switch (NAMES[method]) {
-            case "card": return new long[] {weight(), next(20) == 0 ? 100 * next(2) - next(2) : next(100)};
-            case "told": return new long[] {card, around(2)};
-            case "hook": return new long[] {around(5), next(9) - 4};
-            case "plan": return new long[] {hook, next(20) == 0 ? 1001 * next(2) : 1 + next(next(2) == 0 ? 3 : 30),
+            case "card": return new int[] {weight(), next(20) == 0 ? 100 * next(2) - next(2) : next(100)};
+            case "told": return new int[] {card, around(2)};
+            case "hook": return new int[] {around(5), next(9) - 4};
+            case "plan": return new int[] {hook, next(20) == 0 ? 1001 * next(2) : 1 + next(next(2) == 0 ? 3 : 30),
                 next(20) == 0 ? next(5) - 1 : next(3), next(20) == 0 ? 100 * next(2) : 1 + next(99)};
-            case "clearPlans": return new long[] {};
-            case "about": return new long[] {hook, around(5)};
-            case "tray": return new long[] {around(3), hook};
-            case "put": case "find": return new long[] {tray, card};
-            case "take": return new long[] {tray, place};
-            case "at": return new long[] {tray, Math.min(place, 39)};
-            case "first": return new long[] {tray};
-            case "sort": return new long[] {tray, next(10) == 0 ? hook : next(3)};
-            case "filter": return new long[] {tray, next(10) == 0 ? hook : 3};
-            case "change": return new long[] {tray, next(10) == 0 ? hook : 4};
-            case "all": case "same": return new long[] {tray, around(model.count(2))};
-            case "whole": return new long[] {tray, around(4)};
-            case "thrown": return new long[] {around(4)};
-            default: return new long[] {around(6)};
+            case "clearPlans": return new int[] {};
+            case "about": return new int[] {hook, around(5)};
+            case "tray": return new int[] {around(3), hook};
+            case "put": case "find": return new int[] {tray, card};
+            case "take": return new int[] {tray, place};
+            case "at": return new int[] {tray, Math.min(place, 39)};
+            case "first": return new int[] {tray};
+            case "sort": return new int[] {tray, next(10) == 0 ? hook : next(3)};
+            case "filter": return new int[] {tray, next(10) == 0 ? hook : 3};
+            case "change": return new int[] {tray, next(10) == 0 ? hook : 4};
+            case "all": case "same": return new int[] {tray, around(model.count(2))};
+            case "whole": return new int[] {tray, around(4)};
+            case "thrown": return new int[] {around(4)};
+            default: return new int[] {around(6)};
         }
     }
 
-    private long ofProgram(int method, long[] a) {
-        int p = a.length > 0 ? (int) a[0] : 0;
-        int q = a.length > 1 ? (int) a[1] : 0;
-        switch (NAMES[method]) {
-            case "card": return program.card(p, q);
-            case "told": return program.told(p, q);
-            case "hook": return program.hook(p, q);
-            case "plan": return program.plan(p, q, (int) a[2], (int) a[3]);
-            case "clearPlans": return program.clearPlans();
-            case "about": return program.about(p, q);
-            case "tray": return program.tray(p, q);
-            case "put": return program.put(p, q);
-            case "take": return program.take(p, q);
-            case "first": return program.first(p);
-            case "find": return program.find(p, q);
-            case "sort": return program.sort(p, q);
-            case "filter": return program.filter(p, q);
-            case "change": return program.change(p, q);
-            case "all": return program.all(p, q);
-            case "at": return program.at(p, q);
-            case "whole": return program.whole(p, q);
-            case "same": return program.same(p, q);
-            case "thrown": return program.thrown(p);
-            default: return program.count(p);
-        }
-    }
-
-    private long ofModel(int method, long[] a) {
-        int p = a.length > 0 ? (int) a[0] : 0;
-        int q = a.length > 1 ? (int) a[1] : 0;
+    private long ofModel(int method, int[] a) {
+        int p = a.length > 0 ? a[0] : 0;
+        int q = a.length > 1 ? a[1] : 0;
         switch (NAMES[method]) {
             case "card": return model.card(p, q);
             case "told": return model.told(p, q);
             case "hook": return model.hook(p, q);
-            case "plan": return model.plan(p, q, (int) a[2], (int) a[3]);
+            case "plan": return model.plan(p, q, a[2], a[3]);
             case "clearPlans": return model.clearPlans();
             case "about": return model.about(p, q);
             case "tray": return model.tray(p, q);

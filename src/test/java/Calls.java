@@ -1,7 +1,7 @@
 import java.util.IdentityHashMap;
 import java.util.Map;
 
-/** Makes calls that are written as text, as "put(0, 3)", and no more of them on an object than the document promises. */
+/** Makes calls that are written as text, as "put(0, 3)", and no more on an object than the document promises. */
 final class Calls {
     private static final int MOST = 512;
     private static final Map<HookTrays, Integer> MADE = new IdentityHashMap<>();

@@ -252,7 +252,8 @@ public final class CardsHooksEdgesTest extends Edges {
     @Says("they never change")
     static void promise3CardsNeverChange() {
         HookTrays x = Script.BUSY.made();
-        String[] acts = {"put(1, 3)", "take(0, 0)", "first(2)", "sort(0, 1)", "filter(2, 3)", "change(3, 4)", "all(0, 3)"};
+        String[] acts = {"put(1, 3)", "take(0, 0)", "first(2)", "sort(0, 1)", "filter(2, 3)", "change(3, 4)",
+            "all(0, 3)"};
         for (String act : acts) {
             Calls.ask(x, act);
         }
@@ -428,14 +429,19 @@ public final class CardsHooksEdgesTest extends Edges {
     }
 
     @Says("THROWS (a FAILURE with a number 1 to 99)")
-    static void promise5Failure1AndFailure99() {
-        HookTrays x = KEEPS_ALL.made();
-        due(x, "plan(0, 1, 0, 1)", 1);
-        due(x, "filter(0, 0)", 2);
-        due(x, "thrown(0)", 1);
-        due(x, "plan(0, 1, 0, 99)", 1);
-        due(x, "filter(0, 0)", 2);
-        due(x, "thrown(0)", 99);
+    static void promise5Failure1AndFailure99OfEachHook() {
+        String[] acts = {"sort(0, 0)", "sort(0, 1)", "sort(0, 2)", "filter(0, 3)", "change(0, 4)"};
+        for (int hook = 0; hook <= 4; hook++) {
+            HookTrays x = held(ROW, 7, 6).made();
+            due(x, "plan(" + hook + ", 1, 0, 1)", 1);
+            due(x, acts[hook], hook <= 2 ? 1 : 2);
+            thrown(x, 1, hook, 1, 0);
+            due(x, "plan(" + hook + ", 1, 0, 99)", 1);
+            due(x, acts[hook], hook <= 2 ? 1 : 2);
+            thrown(x, 99, hook, 2, 0);
+            holds(x, 0, 0, 1);
+            due(x, "count(0)", 2);
+        }
     }
 
     @Says({"a number 1 to 99", "BAD: also f."})

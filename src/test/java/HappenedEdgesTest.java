@@ -8,7 +8,7 @@ public final class HappenedEdgesTest extends Edges {
         run(HappenedEdgesTest.class);
     }
 
-    /** BUSY with none of its plans left, and cards 0 and 1 lighter ahead of heavier where an act wants them. */
+    /** BUSY, whose latest act was thrown at, with none of its plans left; and what comes then. */
     private static HookTrays thrownAt(String... acts) {
         return Script.BUSY.and("clearPlans()").and(acts).made();
     }
@@ -39,7 +39,8 @@ public final class HappenedEdgesTest extends Edges {
 
     @Says("1 the HOOK (NONE)")
     static void promise20TheHookMayBeTheFirstOrTheLast() {
-        HookTrays x = held(ROW, 2, 1).and("hook(0, 0)", "hook(1, 0)", "hook(2, 0)", "plan(0, 1, 0, 1)", "plan(7, 1, 0, 99)").made();
+        HookTrays x = held(ROW, 2, 1).and("hook(0, 0)", "hook(1, 0)", "hook(2, 0)")
+            .and("plan(0, 1, 0, 1)", "plan(7, 1, 0, 99)").made();
         due(x, "sort(0, 0)", 1);
         thrown(x, 1, 0, 1, 0);
         due(x, "sort(0, 7)", 1);
@@ -66,7 +67,8 @@ public final class HappenedEdgesTest extends Edges {
         }
     }
 
-    @Says({"What was thrown is kept till the next ACT", "ACTS are put(), take(), first(), find(), sort(), filter(), change(), all(), that are not refused."})
+    @Says({"What was thrown is kept till the next ACT",
+        "ACTS are put(), take(), first(), find(), sort(), filter(), change(), all(), that are not refused."})
     static void promise20EachActIsTheNext() {
         String[] acts = {"put(0, 0)", "take(0, 0)", "first(0)", "find(1, 0)", "sort(0, 0)", "all(0, 3)"};
         for (String act : acts) {
@@ -156,7 +158,7 @@ public final class HappenedEdgesTest extends Edges {
 
     @Says("0 CARDS, 1 HOOKS, 2 TRAYS, 3 PLANS that stand")
     static void promise21AllThatThereMayBe() {
-        Script script = Script.HOOKS.and("hook(0, 0)", "hook(0, 0)", "hook(0, 0)").times(6, "tray(0, 0)").cards(upTo(120));
+        Script script = Script.HOOKS.times(3, "hook(0, 0)").times(6, "tray(0, 0)").cards(upTo(120));
         for (int n = 1; n <= 12; n++) {
             script = script.and("plan(0, " + n + ", 0, 1)");
         }

@@ -458,6 +458,7 @@ final class PlainModel {
     /** All that can be told, for a message. */
     @Override
     public String toString() {
-        return cards.size() + " cards, trays " + trays + ", failure " + Arrays.toString(new int[] {thrown(0), thrown(1), thrown(2)});
+        int[] failed = {thrown(0), thrown(1), thrown(2)};
+        return cards.size() + " cards, trays " + trays + ", failure " + Arrays.toString(failed);
     }
 }

@@ -308,7 +308,8 @@ public final class TraysEdgesTest extends Edges {
     static void promise9LeastAndGreatestWeightAreCompared() {
         int[][] due = {{1, 3, 2, 0}, {0, 2, 3, 1}, {1, 3, 2, 0}};
         for (int hook = 0; hook <= 2; hook++) {
-            HookTrays x = Script.HOOKS.cards(GREATEST, LEAST, 1, -2).and("tray(1, " + hook + ")").puts(0, upTo(4)).made();
+            HookTrays x = Script.HOOKS.cards(GREATEST, LEAST, 1, -2).and("tray(1, " + hook + ")")
+                .puts(0, upTo(4)).made();
             holds(x, 0, due[hook]);
         }
     }
@@ -687,7 +688,8 @@ public final class TraysEdgesTest extends Edges {
         }
     }
 
-    @Says({"pieces of 1, then of 2, 4, .. (as long as that is below how many there are)", "(the last may be shorter, or alone)"})
+    @Says({"pieces of 1, then of 2, 4, .. (as long as that is below how many there are)",
+        "(the last may be shorter, or alone)"})
     static void promise13OfTwoToFiveInOrder() {
         int[] calls = {1, 3, 4, 8};
         for (int many = 2; many <= 5; many++) {

@@ -62,7 +62,8 @@ public final class WholeTraysEdgesTest extends Edges {
         }
     }
 
-    @Says("(all others keep their order; a HEAP is put together anew by putting them one by one into an empty one, when all were asked)")
+    @Says({"(all others keep their order;",
+        "a HEAP is put together anew by putting them one by one into an empty one, when all were asked)"})
     static void promise14All40AreKept() {
         for (int kind = ROW; kind <= HEAP; kind++) {
             HookTrays x = held(kind, tens(40)).made();
@@ -194,7 +195,8 @@ public final class WholeTraysEdgesTest extends Edges {
         int[][] cases = {{GREATEST, 1, LEAST}, {LEAST, -1, GREATEST}, {LEAST, LEAST, 0}, {GREATEST, GREATEST, -2},
             {-1, LEAST, GREATEST}, {GREATEST, LEAST, -1}, {GREATEST, 0, GREATEST}, {GREATEST - 1, 1, GREATEST}};
         for (int[] c : cases) {
-            HookTrays x = Script.EMPTY.and("hook(4, " + c[1] + ")", "card(" + c[0] + ", 99)", "tray(0, 0)", "put(0, 0)").made();
+            HookTrays x = Script.EMPTY.and("hook(4, " + c[1] + ")", "card(" + c[0] + ", 99)")
+                .and("tray(0, 0)", "put(0, 0)").made();
             due(x, "change(0, 0)", 0);
             holds(x, 0, 1);
             due(x, "told(1, 0)", c[2]);
@@ -440,11 +442,12 @@ public final class WholeTraysEdgesTest extends Edges {
     }
 
     /** a is card 1 of weight 5, b is card 0. */
-    @Says({"it is asked of the first of b and the first of a: below 0 the one of b comes, else that of a; then the rest", "(a being those of the one to which they come)"})
+    @Says({"it is asked of the first of b and the first of a:", "below 0 the one of b comes, else that of a; then the rest",
+        "(a being those of the one to which they come)"})
     static void promise16OneMergedWithOne() {
         int[][] due = {{0, 1}, {1, 0}, {1, 0}};
         for (int weight = 4; weight <= 6; weight++) {
-            HookTrays x = Script.HOOKS.cards(weight, 5).and("tray(1, 0)", "tray(1, 0)", "put(0, 0)", "put(1, 1)").made();
+            HookTrays x = Script.HOOKS.cards(weight, 5).times(2, "tray(1, 0)").puts(0, 0).puts(1, 1).made();
             due(x, "all(0, 1)", 0);
             holds(x, 1, due[weight - 4]);
             asked(x, 1);
@@ -469,7 +472,7 @@ public final class WholeTraysEdgesTest extends Edges {
     static void promise16OneOfAHeapPutOnOne() {
         int[][] due = {{0, 1}, {1, 0}, {1, 0}};
         for (int weight = 4; weight <= 6; weight++) {
-            HookTrays x = Script.HOOKS.cards(weight, 5).and("tray(2, 0)", "tray(2, 0)", "put(0, 0)", "put(1, 1)").made();
+            HookTrays x = Script.HOOKS.cards(weight, 5).times(2, "tray(2, 0)").puts(0, 0).puts(1, 1).made();
             due(x, "all(0, 1)", 0);
             holds(x, 1, due[weight - 4]);
             asked(x, 1);
@@ -683,8 +686,8 @@ public final class WholeTraysEdgesTest extends Edges {
         for (int kind = SORTED; kind <= HEAP; kind++) {
             HookTrays x = held(kind, LEAST, GREATEST).made();
             due(x, "whole(0, 3)", 1);
-            HookTrays y = held(kind, LEAST).cards(GREATEST).and("take(0, 0)", "put(0, 1)", "plan(0, 1, 1, 0)", "put(0, 0)").made();
-            holds(y, 0, 1, 0);
+            HookTrays y = held(kind, GREATEST).cards(LEAST).and("plan(0, 1, 1, 0)", "put(0, 1)").made();
+            holds(y, 0, 0, 1);
             due(y, "whole(0, 3)", 0);
         }
     }
@@ -693,7 +696,8 @@ public final class WholeTraysEdgesTest extends Edges {
     static void promise18IsNoCallAndMeetsNoPlan() {
         for (int kind = SORTED; kind <= HEAP; kind++) {
             for (int what = 0; what <= 2; what++) {
-                Script script = held(kind, 10, 20, 30).and("plan(0, 1, " + what + ", 5)", "plan(0, 2, " + what + ", 5)");
+                Script script = held(kind, 10, 20, 30)
+                    .and("plan(0, 1, " + what + ", 5)", "plan(0, 2, " + what + ", 5)");
                 refused(script, "whole(0, 3)", 1);
             }
         }

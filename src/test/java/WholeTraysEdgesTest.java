@@ -442,8 +442,8 @@ public final class WholeTraysEdgesTest extends Edges {
     }
 
     /** a is card 1 of weight 5, b is card 0. */
-    @Says({"it is asked of the first of b and the first of a:", "below 0 the one of b comes, else that of a; then the rest",
-        "(a being those of the one to which they come)"})
+    @Says({"it is asked of the first of b and the first of a:",
+        "below 0 the one of b comes, else that of a; then the rest", "(a being those of the one to which they come)"})
     static void promise16OneMergedWithOne() {
         int[][] due = {{0, 1}, {1, 0}, {1, 0}};
         for (int weight = 4; weight <= 6; weight++) {

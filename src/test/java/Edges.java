@@ -5,7 +5,7 @@ import java.util.Arrays;
 import java.util.Comparator;
 import java.util.List;
 
-/** What the tests of boundary cases share: each is a method that bears its promise's number, and says its sentence. */
+/** What tests of the document's sentences share: each is a method that bears its promise's number, and says its words. */
 abstract class Edges {
     static final int BAD = HookTrays.BAD, NO = HookTrays.NO, FULL = HookTrays.FULL, NONE = HookTrays.NONE;
     static final int THREW = -11;

@@ -7,18 +7,19 @@ import java.util.regex.Matcher;
 import java.util.regex.Pattern;
 
 /**
- * Each test of a boundary case says words that stand in the document, in its promise's part or in the common
- * parts; and no place of the document that names a boundary case is left without a test that says it.
+ * Each test with @Says says words that stand in the document, in its promise's part or in the common parts;
+ * and no word of these parts is left without a test that says it.
  */
 public final class SaysTest {
     private static final Class<?>[] TESTS = {CardsHooksEdgesTest.class, TraysEdgesTest.class,
-        WholeTraysEdgesTest.class, HappenedEdgesTest.class};
-    /** What the document names boundary cases by. */
-    private static final Pattern BOUNDARY = Pattern.compile("\\bBAD\\b|\\bNO\\b|\\bFULL\\b|\\bNONE\\b|-11\\b"
-        + "|-10000000000|\\bempty\\b|\\d+ at most|at most \\d+|PLANS at most|up to \\d+|\\(wrapping\\)"
-        + "|\\d+ to \\d+|as long as|while low|more than \\d+|not looked at|don't look at|OUTCOME \\(0, \\d\\)"
-        + "|nothing changes then|till the next ACT|numbered from 1 on|may be shorter, or alone|never change"
-        + "|else 0|0: none|as they come|No CARDS");
+        WholeTraysEdgesTest.class, HappenedEdgesTest.class, SentencesTest.class};
+    /**
+     * What no test need say: the title, headings, the face and each promise's signature; what the interface says
+     * ahead of groups of calls (FaceTest looks for all of these); signs that part the text; what is not promised.
+     */
+    private static final Pattern NOT_TO_BE_SAID = Pattern.compile("# HookTrays ## What it is"
+        + "|## The public face .*## Terms|## Promise \\d+: [\\w ]+`[^`]+`:|Ahead of the calls .*? interface says: ---- "
+        + "[^.]*\\.|======== \\d|```text|## Not promised .*");
     private static final int PROMISES = 21;
 
     private static final Check CHECK = new Check("SaysTest");
@@ -72,16 +73,28 @@ public final class SaysTest {
     }
 
     private void lookForWhatIsNotSaid() {
-        Matcher found = BOUNDARY.matcher(document);
-        int faceBegins = document.indexOf("## The public face");
-        int faceEnds = document.indexOf("## Terms");
-        int promisesEnd = document.indexOf("## Not promised");
-        while (found.find() && found.start() < promisesEnd) {
-            boolean isOfFace = found.start() > faceBegins && found.start() < faceEnds;
-            if (!isOfFace) {
-                String around = document.substring(Math.max(0, found.start() - 30), found.end());
-                CHECK.due("a test says: .." + around, isSaid[found.start()] && isSaid[found.end() - 1] ? 1 : 0, 1);
+        Matcher except = NOT_TO_BE_SAID.matcher(document);
+        boolean[] isExcepted = new boolean[document.length()];
+        while (except.find()) {
+            Arrays.fill(isExcepted, except.start(), except.end(), true);
+        }
+        Matcher word = Pattern.compile("[^ ]*\\w[^ ]*").matcher(document);
+        while (word.find()) {
+            if (!isExcepted[word.start()]) {
+                String before = document.substring(Math.max(0, word.start() - 30), word.start());
+                CHECK.due("a test says \"" + word.group() + "\" behind .." + before, isSaid(word) ? 1 : 0, 1);
             }
         }
+    }
+
+    /** But for the signs at its end, which may part what two tests say. */
+    private boolean isSaid(Matcher word) {
+        int end = word.start() + word.group().replaceFirst("[^\\w)]+$", "").length();
+        for (int i = word.start(); i < end; i++) {
+            if (!isSaid[i]) {
+                return false;
+            }
+        }
+        return true;
     }
 }
